@@ -688,14 +688,11 @@ public final class WireCodec {
             }
         }
 
+        /** The places count only where there are bytes or ranges, so they may stay. */
         private void forget() {
             Arrays.fill(parts, 0L);
-            dataPlace = 0;
-            secretPlace = 0;
             secretBytes = 0;
-            rangesPlace = 0;
             low = 0;
-            high = 0;
         }
 
         private void takeShape(Reader in, int shape) {
@@ -1062,7 +1059,7 @@ public final class WireCodec {
             GREATEST_NUMBER, MOST_STREAMS, MOST_STREAMS, 20, 16383, 0, 61, GREATEST_NUMBER, 20, 20
         };
 
-        final long[] values = ABSENT.clone();
+        final long[] values = Arrays.copyOf(ABSENT, ABSENT.length);
         // A bit for each id that was there.
         int seen;
 

@@ -246,6 +246,10 @@ public final class DraftTest {
         due.is("both are read", x.frames(0, 0), 2);
         due.is("the least of the last", x.range(1, 2, false), 80);
         x.draft();
+        x.set(1, 64);
+        x.span(3, 3);
+        writes(x, 2, "02 03 4040 00 00");
+        x.draft();
         x.span(0, Due.GREATEST);
         writes(x, 2, "02 ffffffffffffffff 00 00 ffffffffffffffff");
     }

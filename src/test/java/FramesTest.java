@@ -205,6 +205,8 @@ public final class FramesTest {
         one("02 05 00 01 01 02 00", 5, 0, 0, 0, 2, 0, 2);
         wrong("02 05 00 01 01 03 00", 0, VALUE);
         wrong("02 05 00 01 01 02 01", 0, VALUE);
+        wrong("02 05 00 01 05 00 00", 0, VALUE);
+        wrong("02 05 00 02 01 02 00 00 00", 0, VALUE);
         wrong("02 05 00 02 01 ffffffffffffffff ffffffffffffffff ffffffffffffffff 00", 0, VALUE);
         wrong("02 05 00 01 06 00", 0, CUT);
         wrong("02 05 00 ffffffffffffffff 00 00 00", 0, CUT);
@@ -213,6 +215,10 @@ public final class FramesTest {
         wrong("03 05 00 00 06 00 00 00", 1, VALUE);
         wrong("03 05 00 00 06 00 00", 1, CUT);
         wrong("03 05 00 00 05 00 00", 1, CUT);
+        WireCodec x = Due.tape("02 05 00 00 06 01");
+        due.is("a wrong one", x.frames(0, 0), 0);
+        due.is("the ping behind it", x.frames(5, 0), 1);
+        due.is("fault", x.fault(false), 0);
     }
 
     private static void kinds() {
@@ -329,6 +335,18 @@ public final class FramesTest {
         due.is("begin", x.frame(1, 7), 1);
         due.is("end", x.frame(1, 8), 4);
         due.is("end of the first", x.frame(0, 8), 1);
+        WireCodec y = Due.tape("07 01 aa 18 05 05 01 bb" + Due.bytes(16) + "07 02 ccdd 02 07 00 00 01 02 09 00 00 02");
+        due.is("frames", y.frames(0, 2), 5);
+        due.is("data of the first", y.data(0, 0, false), 0xaa);
+        due.is("data of the second", y.data(1, 0, false), 0xbb);
+        due.is("secret of the second", y.data(1, 0, true), 0xab);
+        due.is("data of the third", y.data(2, 1, false), 0xdd);
+        due.fails("the third has no secret", Due.NO_SUCH, () -> y.data(2, 0, true));
+        due.fails("the fourth has no data", Due.NO_SUCH, () -> y.data(3, 0, false));
+        due.is("range of the fifth", y.range(4, 0, false), 7);
+        due.is("range of the fourth", y.range(3, 0, false), 6);
+        due.is("range of the fourth", y.range(3, 0, true), 7);
+        due.fails("the first has no range", Due.NO_SUCH, () -> y.range(0, 0, true));
     }
 
     private static void afterMoreBytes() {
@@ -354,7 +372,9 @@ public final class FramesTest {
         }
         due.is("frames", x.frames(0, 1), 1600);
         due.is("the last", x.frame(1599, 7), 1599);
-        due.is("one in the middle", x.frame(513, 8), 514);
+        for (int i = 510; i < 515; i++) {
+            due.is("one in the middle", x.frame(i, 8), i + 1);
+        }
         due.fails("one more", Due.NO_SUCH, () -> x.frame(1600, 7));
         due.is("frames of the rest", x.frames(1599, 1), 1);
         due.is("the first of the rest", x.frame(0, 7), 1599);

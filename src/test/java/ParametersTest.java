@@ -89,6 +89,7 @@ public final class ParametersTest {
         right("03 02 44b0", 3, 1200);
         right("03 08 ffffffffffffffff", 3, Due.GREATEST);
         for (int id = 8; id <= 9; id++) {
+            right("0" + id + "01 00", id, 0);
             right("0" + id + "08 d000000000000000", id, Due.MOST_STREAMS);
             wrong("0" + id + "08 d000000000000001", VALUE);
         }
