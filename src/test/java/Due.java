@@ -1,6 +1,11 @@
+import java.util.ArrayList;
+import java.util.List;
 import java.util.NoSuchElementException;
 
-/** Counts answers against those that are due, and feeds tapes. */
+/**
+ * Counts answers against those that are due. Each test stands under the section and the sentence of the document that
+ * it would find broken, and both are told with every answer that is not due.
+ */
 final class Due {
     static final long GREATEST = 4611686018427387903L;
     static final long MOST_STREAMS = 1152921504606846976L;
@@ -13,44 +18,128 @@ final class Due {
         void run();
     }
 
-    private final String test;
+    /** A call of the class that is made on a given object. */
+    interface Made {
+        void on(WireCodec x);
+    }
+
+    /** Makes a new object with the same past each time. */
+    interface Past {
+        WireCodec make();
+    }
+
+    /** What a test says of the document. */
+    record Quote(String section, String sentence) { }
+
+    final List<Quote> quotes = new ArrayList<>();
+    private final String name;
+    private final boolean running;
+    private String now = "";
     private int right;
     private int wrong;
 
-    Due(String test) {
-        this.test = test;
+    private Due(String name, boolean running) {
+        this.name = name;
+        this.running = running;
+    }
+
+    Due(String name) {
+        this(name, true);
+    }
+
+    /** One that runs nothing, and only gathers what the tests quote. */
+    static Due listing() {
+        return new Due("listing", false);
+    }
+
+    void test(String section, String sentence, Call body) {
+        quotes.add(new Quote(section, sentence));
+        if (!running) {
+            return;
+        }
+        now = section + ", \"" + sentence + "\": ";
+        int before = right + wrong;
+        try {
+            body.run();
+            if (right + wrong == before) {
+                isWrong("nothing was looked at");
+            }
+        } catch (RuntimeException e) {
+            isWrong("ended with " + e);
+        }
+        now = "";
     }
 
     void is(String call, long got, long want) {
-        if (got == want) {
-            right++;
-        } else {
-            wrong++;
-            System.out.println(test + ": " + call + " answered " + got + ", due is " + want);
-        }
+        count(got == want, call + " answered " + got + ", due is " + want);
+    }
+
+    void holds(String what, boolean so) {
+        count(so, what + " does not hold");
     }
 
     void fails(String call, Class<?> want, Call made) {
-        Class<?> got = null;
-        try {
-            made.run();
-        } catch (RuntimeException e) {
-            got = e.getClass();
-        }
-        if (got == want) {
-            right++;
-        } else {
-            wrong++;
-            System.out.println(test + ": " + call + " threw " + got + ", due is " + want);
+        Class<?> got = thrownBy(made);
+        count(got == want, call + " threw " + got + ", due is " + want);
+    }
+
+    /** The call throws; and behind it the object can't be told from one with the same past that never got the call. */
+    void refused(String call, Class<?> want, Past past, Made made) {
+        WireCodec x = past.make();
+        fails(call, want, () -> made.on(x));
+        String got = Seen.of(x);
+        String untouched = Seen.of(past.make());
+        count(got.equals(untouched), call + " left\n  " + got + "\ndue is\n  " + untouched);
+    }
+
+    /** Refused whatever was read before. */
+    void refused(String call, Class<?> want, Made made) {
+        for (Past past : Pasts.ALL) {
+            refused(call, want, past, made);
         }
     }
 
+    /** The bytes of the tape from a place on are these, written in hex. */
+    void tapeIs(String call, WireCodec x, int from, String hex) {
+        String digits = hex.replace(" ", "");
+        StringBuilder got = new StringBuilder();
+        int size = x.size();
+        for (int k = from; k < size; k++) {
+            got.append(String.format("%02x", x.at(k)));
+        }
+        count(got.toString().equals(digits), call + " wrote " + got + ", due is " + digits);
+    }
+
     void end() {
-        System.out.println(test + ": " + right + " answers as due, " + wrong + " not");
-        if (wrong != 0) {
+        System.out.println(name + ": " + right + " answers as due, " + wrong + " not");
+        if (wrong != 0 || right == 0) {
             System.exit(1);
         }
     }
+
+    private static Class<?> thrownBy(Call made) {
+        try {
+            made.run();
+        } catch (RuntimeException e) {
+            return e.getClass();
+        }
+        return null;
+    }
+
+    private void count(boolean so, String otherwise) {
+        if (so) {
+            right++;
+        } else {
+            isWrong(otherwise);
+        }
+    }
+
+    private void isWrong(String how) {
+        wrong++;
+        System.out.println(name + ": " + now + how);
+    }
+
+    // ---- objects with something on their tape or in their draft
 
     /** A new object with these bytes, written in hex, on its tape. */
     static WireCodec tape(String hex) {
@@ -79,33 +168,27 @@ final class Due {
         return "ab".repeat(count);
     }
 
-    /** The bytes of the tape from a place on, compared with these, written in hex. */
-    void tapeIs(String call, WireCodec x, int from, String hex) {
-        String digits = hex.replace(" ", "");
-        StringBuilder got = new StringBuilder();
-        for (int k = from; k < x.size(); k++) {
-            got.append(String.format("%02x", x.at(k)));
-        }
-        if (got.toString().equals(digits)) {
-            right++;
-        } else {
-            wrong++;
-            System.out.println(test + ": " + call + " wrote " + got + ", due is " + digits);
-        }
+    static String hex(int b) {
+        return String.format("%02x", b);
     }
 
-    /** A tape that has so many bytes, in few calls. */
+    /** A tape that has so many bytes, all 0, in few calls, and an empty draft. */
     static WireCodec filled(int size) {
         WireCodec x = new WireCodec();
+        fill(x, size);
+        return x;
+    }
+
+    static void fill(WireCodec x, int size) {
+        int has = x.size();
         x.set(0, 2000);
-        while (x.size() + 2000 <= size) {
-            x.put(0);
+        while (has + 2000 <= size) {
+            has = x.put(0);
         }
-        if (x.size() < size) {
-            x.set(0, size - x.size());
+        if (has < size) {
+            x.set(0, size - has);
             x.put(0);
         }
         x.draft();
-        return x;
     }
 }
