@@ -182,7 +182,8 @@ final class Due {
     static void fill(WireCodec x, int size) {
         int has = x.size();
         x.set(0, 2000);
-        while (has + 2000 <= size) {
+        // Counted, lest a class that answers wrong keeps it going for ever.
+        for (int k = 0; k < 33 && has + 2000 <= size; k++) {
             has = x.put(0);
         }
         if (has < size) {

@@ -90,6 +90,31 @@ public final class FramesTest {
         due.is("behind all", x.frames(6, 2), 1);
         due.is("no fault", x.fault(false), 0);
         due.is("no place", x.fault(true), -1);
+        wrongOneLeavesNothing();
+    }
+
+    /** Whatever was wrong, a frame that is read behind it is right, and has nothing of the wrong one. */
+    private static void wrongOneLeavesNothing() {
+        String[] wrong = {"1f", "02 05 00 00 06", "03 05 00 01 05 00 00 00 00 00", "02 05 00 09 00", "07 00",
+            "18 05 06 01 aa" + Due.bytes(16), "18 05 05 01 aa", "06" + F8 + "01 aa", "0f 05" + F8 + "03 aabbcc",
+            "12" + F8, "04 05 06"};
+        String[] right = {"01", "00", "02 00 00 00 00", "06 00 00", "0a 00 00", "10 00"};
+        for (String bad : wrong) {
+            for (String good : right) {
+                WireCodec x = Due.tape(good + bad);
+                int behind = good.replace(" ", "").length() / 2;
+                due.is(bad + " is wrong", x.frames(behind, 2), 0);
+                due.is(good + " ahead of it is right", x.frames(0, 2), 1);
+                due.is("the wrong one's place", x.fault(true), behind);
+                due.is("b", x.frame(0, 1), 0);
+                due.is("c", x.frame(0, 2), 0);
+                due.is("bytes", x.frame(0, 5), 0);
+                due.is("where it ends", x.frame(0, 8), behind);
+                due.is("a count", x.frame(0, 9), 0);
+                due.fails("data", Due.NO_SUCH, () -> x.data(0, 0, false));
+                due.fails("secret", Due.NO_SUCH, () -> x.data(0, 0, true));
+            }
+        }
     }
 
     private static void kinds() {
