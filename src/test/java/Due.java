@@ -3,7 +3,7 @@ import java.util.List;
 import java.util.NoSuchElementException;
 
 /**
- * Counts answers against those that are due. Each test stands under the section and the sentence of the document that
+ * Counts answers against those that are due. Each test stands under the promise and the sentence of the document that
  * it would find broken, and both are told with every answer that is not due.
  */
 final class Due {
@@ -28,8 +28,12 @@ final class Due {
         WireCodec make();
     }
 
-    /** What a test says of the document. */
-    record Quote(String section, String sentence) { }
+    /** A sentence of the document, and where it stands: "Promise 8", or "Promise 8, Terms" for a term of that promise. */
+    record Quote(String where, String sentence) {
+        String section() {
+            return where.substring(where.lastIndexOf(", ") + 1).strip();
+        }
+    }
 
     final List<Quote> quotes = new ArrayList<>();
     private final String name;
@@ -52,12 +56,12 @@ final class Due {
         return new Due("listing", false);
     }
 
-    void test(String section, String sentence, Call body) {
-        quotes.add(new Quote(section, sentence));
+    void test(String where, String sentence, Call body) {
+        quotes.add(new Quote(where, sentence));
         if (!running) {
             return;
         }
-        now = section + ", \"" + sentence + "\": ";
+        now = where + ", \"" + sentence + "\": ";
         int before = right + wrong;
         try {
             body.run();
@@ -85,10 +89,13 @@ final class Due {
 
     /** The call throws; and behind it the object can't be told from one with the same past that never got the call. */
     void refused(String call, Class<?> want, Past past, Made made) {
-        WireCodec x = past.make();
-        fails(call, want, () -> made.on(x));
-        String got = Seen.of(x);
-        String untouched = Seen.of(past.make());
+        fails(call, want, () -> made.on(past.make()));
+        String got = Seen.of(() -> {
+            WireCodec x = past.make();
+            thrownBy(() -> made.on(x));
+            return x;
+        });
+        String untouched = Seen.of(past);
         count(got.equals(untouched), call + " left\n  " + got + "\ndue is\n  " + untouched);
     }
 

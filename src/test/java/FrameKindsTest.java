@@ -15,57 +15,66 @@ public final class FrameKindsTest {
     }
 
     static void tests(Due d) {
-        d.test("Terms", "FRAMES. A frame is its KIND, in one byte, and fields", FrameKindsTest::kindInOneByte);
-        d.test("Terms", "n is a number, x(k) k bytes as a word, D(n) as many bytes of DATA as the number ahead of it says.",
+        d.test("Promise 8, Terms", "FRAMES. A frame is its KIND, in one byte, and fields",
+                FrameKindsTest::kindInOneByte);
+        d.test("Promise 8, Terms",
+                "n is a number, x(k) k bytes as a word, D(n) as many bytes of DATA as the number ahead of it says.",
                 FrameKindsTest::fields);
-        d.test("Terms", "Fields are a, b, c, d; what a kind does not have is 0.", FrameKindsTest::othersAreZero);
-        d.test("Terms", "0 PADDING: all bytes 0 up to the next other one are one frame, a how many.",
+        d.test("Promise 8, Terms", "Fields are a, b, c, d; what a kind does not have is 0.",
+                FrameKindsTest::othersAreZero);
+        d.test("Promise 8, Terms", "0 PADDING: all bytes 0 up to the next other one are one frame, a how many.",
                 FrameKindsTest::padding);
-        d.test("Terms", "1 PING, 30 DONE: nothing.", FrameKindsTest::nothing);
+        d.test("Promise 8, Terms", "1 PING, 30 DONE: nothing.", FrameKindsTest::nothing);
         plainKinds(d);
-        d.test("Terms", "6 CRYPTO: n b offset, D(n).", FrameKindsTest::crypto);
-        d.test("Terms", "7 TOKEN: D(n), not empty.", FrameKindsTest::token);
-        d.test("Terms", "24 NEW NAME: n a, n b (not above a), x(1) 1 .. 20, so many bytes of data, and 16 bytes of SECRET.",
+        d.test("Promise 8, Terms", "6 CRYPTO: n b offset, D(n).", FrameKindsTest::crypto);
+        d.test("Promise 8, Terms", "7 TOKEN: D(n), not empty.", FrameKindsTest::token);
+        d.test("Promise 8, Terms",
+                "24 NEW NAME: n a, n b (not above a), x(1) 1 .. 20, so many bytes of data, and 16 bytes of SECRET.",
                 FrameKindsTest::newName);
-        d.test("Terms", "26 CHALLENGE, 27 RESPONSE: x(8) a (any long).", FrameKindsTest::words);
-        d.test("Terms", "28 CLOSE: n a code, n b kind of a frame, D(n).", FrameKindsTest::close);
-        d.test("Terms", "29 CLOSE (of an application): n a code, D(n).", FrameKindsTest::closeOfApplication);
-        d.test("Terms", "In 18, 19, 22, 23 a is at most 1152921504606846976.", FrameKindsTest::mostStreams);
-        d.test("Terms", "8 .. 15 STREAM, told as kind 8: the bit 4 of the byte: there is an offset; 2: a length; 1: c is 1"
+        d.test("Promise 8, Terms", "26 CHALLENGE, 27 RESPONSE: x(8) a (any long).", FrameKindsTest::words);
+        d.test("Promise 8, Terms", "28 CLOSE: n a code, n b kind of a frame, D(n).", FrameKindsTest::close);
+        d.test("Promise 8, Terms", "29 CLOSE (of an application): n a code, D(n).", FrameKindsTest::closeOfApplication);
+        d.test("Promise 8, Terms", "In 18, 19, 22, 23 a is at most 1152921504606846976.", FrameKindsTest::mostStreams);
+        d.test("Promise 8, Terms",
+                "8 .. 15 STREAM, told as kind 8: the bit 4 of the byte: there is an offset; 2: a length; 1: c is 1"
                 + " (FIN).", FrameKindsTest::streamBits);
-        d.test("Terms", "n a stream; n b offset, if there is one, or else 0; D(n), if there is a length (d is 1 then)",
+        d.test("Promise 8, Terms",
+                "n a stream; n b offset, if there is one, or else 0; D(n), if there is a length (d is 1 then)",
                 FrameKindsTest::streamFields);
-        d.test("Terms", "or else all bytes up to the end are data.", FrameKindsTest::streamToTheEnd);
-        d.test("Terms", "For CRYPTO and STREAM, b + the bytes of data is a number, too.", FrameKindsTest::offsetAndData);
-        d.test("Terms", "2, 3 ACK: n a the LARGEST, n b delay, n how many RANGES follow, n FIRST; the first range is a -"
+        d.test("Promise 8, Terms", "or else all bytes up to the end are data.", FrameKindsTest::streamToTheEnd);
+        d.test("Promise 8, Terms", "For CRYPTO and STREAM, b + the bytes of data is a number, too.",
+                FrameKindsTest::offsetAndData);
+        d.test("Promise 8, Terms",
+                "2, 3 ACK: n a the LARGEST, n b delay, n how many RANGES follow, n FIRST; the first range is a -"
                 + " FIRST .. a", FrameKindsTest::ackFirst);
-        d.test("Terms", "then for each that follows n GAP, n SIZE: with l the least of the range before, its greatest is"
-                + " l - GAP - 2, its least SIZE less.", FrameKindsTest::ackFollowing);
-        d.test("Terms", "None is below 0.", FrameKindsTest::ackBelowZero);
-        d.test("Terms", "3 has three COUNTS more, n each.", FrameKindsTest::ackCounts);
+        d.test("Promise 8, Terms",
+                "then for each that follows n GAP, n SIZE: with l the least of the range before, its greatest is l -"
+                + " GAP - 2, its least SIZE less.", FrameKindsTest::ackFollowing);
+        d.test("Promise 8, Terms", "None is below 0.", FrameKindsTest::ackBelowZero);
+        d.test("Promise 8, Terms", "3 has three COUNTS more, n each.", FrameKindsTest::ackCounts);
     }
 
     private static void plainKinds(Due d) {
-        d.test("Terms", "4 RESET: n a stream, n b code, n c final size.", () -> {
+        d.test("Promise 8, Terms", "4 RESET: n a stream, n b code, n c final size.", () -> {
             checks.one("04 01 4102 80000003", 1, 258, 3, 0, 4);
             checks.one("04 00 00 00", 0, 0, 0, 0, 4);
             checks.one("04" + F8 + F8 + F8, MAX, MAX, MAX, 0, 4);
             checks.cutAnywhere("04 4001 4102 80000003");
         });
-        d.test("Terms", "5 STOP: n a stream, n b code.", () -> two(5));
-        d.test("Terms", "16 MAX DATA: n a.", () -> alone(16, MAX));
-        d.test("Terms", "17 MAX STREAM DATA: n a stream, n b.", () -> two(17));
-        d.test("Terms", "18, 19 MAX STREAMS: n a.", () -> {
+        d.test("Promise 8, Terms", "5 STOP: n a stream, n b code.", () -> two(5));
+        d.test("Promise 8, Terms", "16 MAX DATA: n a.", () -> alone(16, MAX));
+        d.test("Promise 8, Terms", "17 MAX STREAM DATA: n a stream, n b.", () -> two(17));
+        d.test("Promise 8, Terms", "18, 19 MAX STREAMS: n a.", () -> {
             alone(18, Due.MOST_STREAMS);
             alone(19, Due.MOST_STREAMS);
         });
-        d.test("Terms", "20 DATA BLOCKED: n a.", () -> alone(20, MAX));
-        d.test("Terms", "21 STREAM DATA BLOCKED: n a stream, n b.", () -> two(21));
-        d.test("Terms", "22, 23 STREAMS BLOCKED: n a.", () -> {
+        d.test("Promise 8, Terms", "20 DATA BLOCKED: n a.", () -> alone(20, MAX));
+        d.test("Promise 8, Terms", "21 STREAM DATA BLOCKED: n a stream, n b.", () -> two(21));
+        d.test("Promise 8, Terms", "22, 23 STREAMS BLOCKED: n a.", () -> {
             alone(22, Due.MOST_STREAMS);
             alone(23, Due.MOST_STREAMS);
         });
-        d.test("Terms", "25 RETIRE: n a.", () -> alone(25, MAX));
+        d.test("Promise 8, Terms", "25 RETIRE: n a.", () -> alone(25, MAX));
     }
 
     private static void alone(int kind, long most) {

@@ -29,12 +29,15 @@ public final class FramesTest {
         d.test("Promise 8", "Throws IllegalArgumentException when level is not 0 .. 2", FramesTest::noLevel);
         d.test("Promise 8", "or from not 0 .. size.", FramesTest::noPlace);
         d.test("Promise 9", "Of what frames, head, datagram or parameters read last", FramesTest::readLast);
-        d.test("Promise 9", "(each of these forgets the frames and packets that were read before)", FramesTest::forgets);
+        d.test("Promise 9", "(each of these forgets the frames and packets that were read before)",
+                FramesTest::forgets);
         d.test("Promise 9", "its fault, 0 for none", FramesTest::faultNone);
-        d.test("Promise 9", "with place: where what is wrong begins, -1 for none (of a head and datagram: the header; of"
+        d.test("Promise 9",
+                "with place: where what is wrong begins, -1 for none (of a head and datagram: the header; of"
                 + " parameters: the id).", FramesTest::faultPlace);
-        d.test("Promise 10", "Of frame i that was read: 0 a, 1 b, 2 c, 3 d, 4 its kind, 5 the bytes of its data, 6 its"
-                + " ranges (0 but for ACK), 7 where it begins, 8 where it ends, 9 .. 11 its counts.", FramesTest::frame);
+        d.test("Promise 10",
+                "Of frame i that was read: 0 a, 1 b, 2 c, 3 d, 4 its kind, 5 the bytes of its data, 6 its ranges (0"
+                + " but for ACK), 7 where it begins, 8 where it ends, 9 .. 11 its counts.", FramesTest::frame);
         d.test("Promise 10", "Throws NoSuchElementException when there is no such frame or what.", FramesTest::noFrame);
         d.test("Promise 11", "Byte j of a frame's data, or of its secret.", FramesTest::data);
         d.test("Promise 11", "Throws NoSuchElementException when there is none.", FramesTest::noData);
@@ -43,15 +46,17 @@ public final class FramesTest {
     }
 
     private static void terms(Due d) {
-        d.test("Terms", "READING frames at a LEVEL (0 FIRST, 1 MIDDLE, 2 LAST) goes from a place to the end of the tape",
+        d.test("Promise 8, Terms",
+                "READING frames at a LEVEL (0 FIRST, 1 MIDDLE, 2 LAST) goes from a place to the end of the tape",
                 FramesTest::fromAPlaceToTheEnd);
-        d.test("Terms", "the first frame that is wrong ends it, with a FAULT and that frame's PLACE",
+        d.test("Promise 8, Terms", "the first frame that is wrong ends it, with a FAULT and that frame's PLACE",
                 FramesTest::firstWrongEnds);
-        d.test("Terms", "2 KIND: no such kind (the byte)", FramesTest::kinds);
-        d.test("Terms", "4 LEVEL: at the levels 0 and 1 none but 0, 1, 2, 3, 6, 28", FramesTest::levels);
-        d.test("Terms", "1 CUT: the bytes are over within it (also a data that is longer)", FramesTest::cuts);
-        d.test("Terms", "3 VALUE: a field is not as said (all of it is there).", FramesTest::values);
-        d.test("Terms", "For one frame they are looked at in this order.", FramesTest::order);
+        d.test("Promise 8, Terms", "2 KIND: no such kind (the byte)", FramesTest::kinds);
+        d.test("Promise 8, Terms", "4 LEVEL: at the levels 0 and 1 none but 0, 1, 2, 3, 6, 28", FramesTest::levels);
+        d.test("Promise 8, Terms", "1 CUT: the bytes are over within it (also a data that is longer)",
+                FramesTest::cuts);
+        d.test("Promise 8, Terms", "3 VALUE: a field is not as said (all of it is there).", FramesTest::values);
+        d.test("Promise 8, Terms", "For one frame they are looked at in this order.", FramesTest::order);
     }
 
     private static void fromAPlaceToTheEnd() {

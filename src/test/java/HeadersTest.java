@@ -24,51 +24,61 @@ public final class HeadersTest {
         headers(d);
         wrongs(d);
         datagrams(d);
-        d.test("Promise 18", "Reads the header at a place, names TO of short ones having so many bytes: where the packet's"
-                + " number begins", HeadersTest::head);
+        d.test("Promise 18",
+                "Reads the header at a place, names TO of short ones having so many bytes: where the packet's number"
+                + " begins", HeadersTest::head);
         d.test("Promise 18", "-1 when it is wrong.", HeadersTest::headWrong);
         d.test("Promise 18", "Throws IllegalArgumentException when from is not 0 .. size", HeadersTest::headNoPlace);
         d.test("Promise 18", "or names not 0 .. 20.", HeadersTest::headNoNames);
         d.test("Promise 19", "Reads the tape from a place on as a datagram: how many packets (0 without a fault where"
                 + " nothing is left).", HeadersTest::datagram);
         d.test("Promise 19", "Throws IllegalArgumentException as head does.", HeadersTest::datagramRefused);
-        d.test("Promise 20", "Of packet i that was read (0 behind head): 0 its kind, 1 r, 2 the version (0 for a short"
-                + " one), 3 where it begins, 4 where its number begins, 5 where it ends, 6, 7 the place and bytes of its"
-                + " name TO, 8, 9 of BY, 10, 11 of its token", HeadersTest::packet);
+        d.test("Promise 20",
+                "Of packet i that was read (0 behind head): 0 its kind, 1 r, 2 the version (0 for a short one), 3"
+                + " where it begins, 4 where its number begins, 5 where it ends, 6, 7 the place and bytes of its name"
+                + " TO, 8, 9 of BY, 10, 11 of its token", HeadersTest::packet);
         d.test("Promise 20", "(places are 0 where its kind of header has none; an empty one has its place).",
                 HeadersTest::packetPlaces);
-        d.test("Promise 20", "Throws NoSuchElementException when there is no such packet or what.", HeadersTest::noPacket);
+        d.test("Promise 20", "Throws NoSuchElementException when there is no such packet or what.",
+                HeadersTest::noPacket);
     }
 
     private static void headers(Due d) {
-        d.test("Terms", "HEADERS. NAMES of connections have 0 .. 20 bytes.", HeadersTest::names);
-        d.test("Terms", "A LONG one: a byte 128 + 64 + 16 * kind + r (kind 0 INITIAL, 1 EARLY, 2 HANDSHAKE, 3 RETRY; r 0 .."
+        d.test("Promise 18, Terms", "HEADERS. NAMES of connections have 0 .. 20 bytes.", HeadersTest::names);
+        d.test("Promise 18, Terms",
+                "A LONG one: a byte 128 + 64 + 16 * kind + r (kind 0 INITIAL, 1 EARLY, 2 HANDSHAKE, 3 RETRY; r 0 .."
                 + " 15), x(4) the version, x(1) how many, and the bytes of the name TO, likewise the name BY",
                 HeadersTest::longOnes);
-        d.test("Terms", "INITIAL: D(n) a token; n the LENGTH: what follows, which begins with the packet's number.",
+        d.test("Promise 18, Terms",
+                "INITIAL: D(n) a token; n the LENGTH: what follows, which begins with the packet's number.",
                 HeadersTest::tokenAndLength);
-        d.test("Terms", "A SHORT one (kind 4): a byte 64 + r (r 0 .. 63), and the bytes of the name TO, as many as those"
-                + " who read it know.", HeadersTest::shortOnes);
+        d.test("Promise 18, Terms",
+                "A SHORT one (kind 4): a byte 64 + r (r 0 .. 63), and the bytes of the name TO, as many as those who"
+                + " read it know.", HeadersTest::shortOnes);
     }
 
     private static void wrongs(Due d) {
-        d.test("Terms", "Wrong, the first that holds: 1 CUT: the byte is not there", HeadersTest::noByte);
-        d.test("Terms", "2 FIXED: its bit 64 is 0", HeadersTest::fixed);
-        d.test("Terms", "then, for a long one: 1 CUT: version or the byte behind it is not there", HeadersTest::noVersion);
-        d.test("Terms", "3 VERSION: it is not 1", HeadersTest::version);
-        d.test("Terms", "5 NAME: a name of more than 20", HeadersTest::longNames);
-        d.test("Terms", "4 REFUSED: kind 1 or 3 (asked when both names have been read)", HeadersTest::refusedKinds);
-        d.test("Terms", "1 CUT: anything else is not there", HeadersTest::anythingElse);
-        d.test("Terms", "or fewer bytes than LENGTH are left", HeadersTest::lengthNotLeft);
-        d.test("Terms", "or LENGTH is less than 20.", HeadersTest::lengthTooSmall);
-        d.test("Terms", "For a short one: 1 CUT: the name, or 20 bytes behind it, are not there.", HeadersTest::shortCut);
+        d.test("Promise 18, Terms", "Wrong, the first that holds: 1 CUT: the byte is not there", HeadersTest::noByte);
+        d.test("Promise 18, Terms", "2 FIXED: its bit 64 is 0", HeadersTest::fixed);
+        d.test("Promise 18, Terms", "then, for a long one: 1 CUT: version or the byte behind it is not there",
+                HeadersTest::noVersion);
+        d.test("Promise 18, Terms", "3 VERSION: it is not 1", HeadersTest::version);
+        d.test("Promise 18, Terms", "5 NAME: a name of more than 20", HeadersTest::longNames);
+        d.test("Promise 18, Terms", "4 REFUSED: kind 1 or 3 (asked when both names have been read)",
+                HeadersTest::refusedKinds);
+        d.test("Promise 18, Terms", "1 CUT: anything else is not there", HeadersTest::anythingElse);
+        d.test("Promise 18, Terms", "or fewer bytes than LENGTH are left", HeadersTest::lengthNotLeft);
+        d.test("Promise 18, Terms", "or LENGTH is less than 20.", HeadersTest::lengthTooSmall);
+        d.test("Promise 18, Terms", "For a short one: 1 CUT: the name, or 20 bytes behind it, are not there.",
+                HeadersTest::shortCut);
     }
 
     private static void datagrams(Due d) {
-        d.test("Terms", "A DATAGRAM is packets, one behind the other; a long one ends as its LENGTH says, a short one with"
+        d.test("Promise 19, Terms",
+                "A DATAGRAM is packets, one behind the other; a long one ends as its LENGTH says, a short one with"
                 + " the datagram.", HeadersTest::oneBehindTheOther);
-        d.test("Terms", "Reading it ends at the first that is wrong", HeadersTest::datagramWrong);
-        d.test("Terms", "or (6 OTHER) whose name TO is not that of the first.", HeadersTest::otherNames);
+        d.test("Promise 19, Terms", "Reading it ends at the first that is wrong", HeadersTest::datagramWrong);
+        d.test("Promise 19, Terms", "or (6 OTHER) whose name TO is not that of the first.", HeadersTest::otherNames);
     }
 
     private static void parts(WireCodec x, int i, long... want) {

@@ -12,8 +12,9 @@ public final class LeadTest {
     }
 
     static void tests(Due d) {
-        d.test("Promise 21", "Writes a header behind the tape, its names and token being of the draft's data: the first to"
-                + " bytes, the by bytes behind, the rest the token (0 with kind 2).", LeadTest::writes);
+        d.test("Promise 21",
+                "Writes a header behind the tape, its names and token being of the draft's data: the first to bytes,"
+                + " the by bytes behind, the rest the token (0 with kind 2).", LeadTest::writes);
         d.test("Promise 21", "r, version 1, LENGTH (in two bytes).", LeadTest::rVersionLength);
         d.test("Promise 21", "With kind 4 the name TO alone: by is 0, the rest does not count, length neither.",
                 LeadTest::shortOnes);

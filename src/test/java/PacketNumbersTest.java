@@ -12,13 +12,16 @@ public final class PacketNumbersTest {
     }
 
     static void tests(Due d) {
-        d.test("Terms", "A packet's number, 0 .. 4611686018427387903, is CUT to its lowest 1 .. 4 bytes.",
+        d.test("Promises 22, 23, Terms",
+                "A packet's number, 0 .. 4611686018427387903, is CUT to its lowest 1 .. 4 bytes.",
                 PacketNumbersTest::cutAndGrown);
-        d.test("Terms", "With A the largest one acknowledged (-1 for none) the fewest bytes such that number - A is at most"
+        d.test("Promise 22, Terms",
+                "With A the largest one acknowledged (-1 for none) the fewest bytes such that number - A is at most"
                 + " 128, 32768, 8388608, 2147483648.", PacketNumbersTest::fewestBytes);
-        d.test("Terms", "It GROWS again from the largest one received (-1 for none): of 0 .. 4611686018427387903, the one"
+        d.test("Promise 23, Terms",
+                "It GROWS again from the largest one received (-1 for none): of 0 .. 4611686018427387903, the one"
                 + " with these lowest bytes that is nearest to that and 1", PacketNumbersTest::nearest);
-        d.test("Terms", "if two are, the greater one.", PacketNumbersTest::theGreater);
+        d.test("Promise 23, Terms", "if two are, the greater one.", PacketNumbersTest::theGreater);
         d.test("Promise 22", "To how many bytes a packet's number is cut", PacketNumbersTest::cut);
         d.test("Promise 22", "0 when it can't be (more than 4).", PacketNumbersTest::cutNever);
         d.test("Promise 22", "Throws IllegalArgumentException when number or acknowledged is not as said",

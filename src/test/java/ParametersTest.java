@@ -22,15 +22,17 @@ public final class ParametersTest {
     static void tests(Due d) {
         ids(d);
         values(d);
-        d.test("Terms", "0, 2, 13, 16 are of the one that answers alone.", ParametersTest::sides);
-        d.test("Terms", "Without them: 3 is 65527, 10 is 3, 11 is 25, 14 is 2, others 0.", ParametersTest::without);
-        d.test("Terms", "Wrong: 1 CUT", ParametersTest::cuts);
-        d.test("Terms", "3 VALUE (of the data)", ParametersTest::wrongValues);
-        d.test("Terms", "4 LEVEL: one that is not of this side", ParametersTest::wrongSide);
-        d.test("Terms", "2 KIND: a known id for the second time", ParametersTest::secondTime);
-        d.test("Terms", "looked at as 1, 2, 4, 3 for each.", ParametersTest::order);
-        d.test("Promise 24", "Reads the tape from a place on as parameters, of the one that answers or not: how many known"
-                + " ones there are", ParametersTest::parameters);
+        d.test("Promise 24, Terms", "0, 2, 13, 16 are of the one that answers alone.", ParametersTest::sides);
+        d.test("Promise 25, Terms", "Without them: 3 is 65527, 10 is 3, 11 is 25, 14 is 2, others 0.",
+                ParametersTest::without);
+        d.test("Promise 24, Terms", "Wrong: 1 CUT", ParametersTest::cuts);
+        d.test("Promise 24, Terms", "3 VALUE (of the data)", ParametersTest::wrongValues);
+        d.test("Promise 24, Terms", "4 LEVEL: one that is not of this side", ParametersTest::wrongSide);
+        d.test("Promise 24, Terms", "2 KIND: a known id for the second time", ParametersTest::secondTime);
+        d.test("Promise 24, Terms", "looked at as 1, 2, 4, 3 for each.", ParametersTest::order);
+        d.test("Promise 24",
+                "Reads the tape from a place on as parameters, of the one that answers or not: how many known ones"
+                + " there are", ParametersTest::parameters);
         d.test("Promise 24", "-1 when they are wrong.", ParametersTest::parametersWrong);
         d.test("Promise 24", "Throws IllegalArgumentException when from is not 0 .. size.", ParametersTest::noPlace);
         d.test("Promise 25", "A parameter of the latest reading of parameters (frames, head, datagram behind it change"
@@ -44,23 +46,24 @@ public final class ParametersTest {
     }
 
     private static void ids(Due d) {
-        d.test("Terms", "PARAMETERS: each an id (a number) and D(n), up to the end.", ParametersTest::idAndData);
-        d.test("Terms", "1, 3 .. 11, 14: the data is just one number.", ParametersTest::justOneNumber);
-        d.test("Terms", "12: no data.", () -> {
+        d.test("Promise 24, Terms", "PARAMETERS: each an id (a number) and D(n), up to the end.",
+                ParametersTest::idAndData);
+        d.test("Promise 24, Terms", "1, 3 .. 11, 14: the data is just one number.", ParametersTest::justOneNumber);
+        d.test("Promise 24, Terms", "12: no data.", () -> {
             right("0c 00", 12, 1);
             right("0c 4000", 12, 1);
             wrong("0c 01 00", VALUE);
             wrong("0c 02 0000", VALUE);
         });
-        d.test("Terms", "2: 16 bytes.", () -> {
+        d.test("Promise 24, Terms", "2: 16 bytes.", () -> {
             right("02 10" + Due.bytes(16), 2, 16);
             right("02 4010" + Due.bytes(16), 2, 16);
             wrong("02 0f" + Due.bytes(15), VALUE);
             wrong("02 11" + Due.bytes(17), VALUE);
             wrong("02 00", VALUE);
         });
-        d.test("Terms", "0, 15, 16: 0 .. 20 bytes.", ParametersTest::names);
-        d.test("Terms", "13: 41 .. 61 bytes.", () -> {
+        d.test("Promise 24, Terms", "0, 15, 16: 0 .. 20 bytes.", ParametersTest::names);
+        d.test("Promise 24, Terms", "13: 41 .. 61 bytes.", () -> {
             right("0d 29" + Due.bytes(41), 13, 41);
             right("0d 32" + Due.bytes(50), 13, 50);
             right("0d 3d" + Due.bytes(61), 13, 61);
@@ -68,18 +71,18 @@ public final class ParametersTest {
             wrong("0d 3e" + Due.bytes(62), VALUE);
             wrong("0d 00", VALUE);
         });
-        d.test("Terms", "Others mean nothing.", ParametersTest::others);
+        d.test("Promise 24, Terms", "Others mean nothing.", ParametersTest::others);
     }
 
     private static void values(Due d) {
-        d.test("Terms", "3 is at least 1200", () -> {
+        d.test("Promise 24, Terms", "3 is at least 1200", () -> {
             right("03 02 44b0", 3, 1200);
             wrong("03 02 44af", VALUE);
             wrong("03 01 00", VALUE);
             right("03 08" + F8, 3, Due.GREATEST);
             right("03 04 8000fff8", 3, 65528);
         });
-        d.test("Terms", "8 and 9 at most 1152921504606846976", () -> {
+        d.test("Promise 24, Terms", "8 and 9 at most 1152921504606846976", () -> {
             for (int id = 8; id <= 9; id++) {
                 right("0" + id + "01 00", id, 0);
                 right("0" + id + "08 d000000000000000", id, Due.MOST_STREAMS);
@@ -87,19 +90,19 @@ public final class ParametersTest {
                 wrong("0" + id + "08" + F8, VALUE);
             }
         });
-        d.test("Terms", "10 at most 20", () -> {
+        d.test("Promise 24, Terms", "10 at most 20", () -> {
             right("0a 01 00", 10, 0);
             right("0a 01 14", 10, 20);
             wrong("0a 01 15", VALUE);
             wrong("0a 08" + F8, VALUE);
         });
-        d.test("Terms", "11 below 16384", () -> {
+        d.test("Promise 24, Terms", "11 below 16384", () -> {
             right("0b 01 00", 11, 0);
             right("0b 02 7fff", 11, 16383);
             wrong("0b 04 80004000", VALUE);
             wrong("0b 08" + F8, VALUE);
         });
-        d.test("Terms", "14 at least 2.", () -> {
+        d.test("Promise 24, Terms", "14 at least 2.", () -> {
             wrong("0e 01 00", VALUE);
             wrong("0e 01 01", VALUE);
             right("0e 01 02", 14, 2);

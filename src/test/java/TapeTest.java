@@ -9,8 +9,9 @@ public final class TapeTest {
     }
 
     static void tests(Due d) {
-        d.test("What it is", "An object is used for at most 512 calls after it has been made; what later calls answer is"
-                + " free.", TapeTest::the512thCall);
+        d.test("Promise 1, What it is",
+                "An object is used for at most 512 calls after it has been made; what later calls answer is free.",
+                TapeTest::the512thCall);
         terms(d);
         d.test("Promise 1", "An empty tape and draft, nothing read.", TapeTest::newObject);
         d.test("Promise 2", "Puts the lowest n bytes of v, highest first, behind the tape: how many it has.",
@@ -36,15 +37,20 @@ public final class TapeTest {
     }
 
     private static void terms(Due d) {
-        d.test("Terms", "What is read comes from a TAPE of bytes, what is written goes behind it.", TapeTest::behind);
-        d.test("Terms", "THE TAPE has at most 65536 bytes.", TapeTest::tapeMost);
-        d.test("Terms", "All memory is the class's own: the tape, and tables of at most as many places.", TapeTest::tables);
-        d.test("Terms", "Of several exceptions the first one told is thrown.", TapeTest::firstTold);
-        d.test("Terms", "A NUMBER (0 .. 4611686018427387903) has 1, 2, 4 or 8 bytes: the two highest bits of the first one"
+        d.test("Promises 2, 8, Terms", "What is read comes from a TAPE of bytes, what is written goes behind it.",
+                TapeTest::behind);
+        d.test("Promises 2, 3, 17, 21, Terms", "THE TAPE has at most 65536 bytes.", TapeTest::tapeMost);
+        d.test("Promises 8, 12, 19, Terms",
+                "All memory is the class's own: the tape, and tables of at most as many places.", TapeTest::tables);
+        d.test("Promises 2, 3, 15, 16, 17, 21, Terms", "Of several exceptions the first one told is thrown.",
+                TapeTest::firstTold);
+        d.test("Promise 7, Terms",
+                "A NUMBER (0 .. 4611686018427387903) has 1, 2, 4 or 8 bytes: the two highest bits of the first one"
                 + " are 0, 1, 2, 3 for that; all the others are its bits, highest first.", TapeTest::numbers);
-        d.test("Terms", "It may have more bytes than it needs", TapeTest::longNumbers);
-        d.test("Terms", "what is written has the fewest, where nothing else is said.", TapeTest::fewestBytes);
-        d.test("Terms", "n BYTES as a word: the highest first.", TapeTest::words);
+        d.test("Promises 7, 8, 18, 24, Terms", "It may have more bytes than it needs", TapeTest::longNumbers);
+        d.test("Promises 17, 21, Terms", "what is written has the fewest, where nothing else is said.",
+                TapeTest::fewestBytes);
+        d.test("Promises 2, 8, 18, Terms", "n BYTES as a word: the highest first.", TapeTest::words);
     }
 
     private static void the512thCall() {
